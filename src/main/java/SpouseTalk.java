@@ -7,6 +7,7 @@ public final class SpouseTalk {
 
     private static final int NOBODY = -2;
     private static final int NO_AMOUNT = -100000;
+    private static final int ENDLESS = 1000000;
 
     private static final int TAPE_ROOM = 2000;
     private static final int FED_BYTES = 20;
@@ -389,7 +390,7 @@ public final class SpouseTalk {
         if (!text.hasThird(one) || !text.hasThird(two) || !Rows.isRow(row)) {
             return NONE;
         }
-        return search.putByTwo(now, one, two, row);
+        return talk.putRow(now, two, talk.putRow(now, one, row));
     }
 
     public int say(int third, int row) {
@@ -484,14 +485,23 @@ public final class SpouseTalk {
         if (n < 1 || n > MOST_OATH_WEEKS || i < NONE) {
             return NONE;
         }
-        return future.restingOaths(now, n, i);
+        for (int set = 0; set < 1 << text.thirds; set++) {
+            future.tryOaths(now, n, set);
+        }
+        return future.restingOaths(i);
     }
 
     public int year(int couple, int n, int s) {
         if (!text.hasCouple(couple) || n < 0 || n > MOST_WEEKS || s < 1 || s > MOST_SEEDS) {
             return NONE;
         }
-        return future.seedsThatPart(now, couple, n, s);
+        int parting = 0;
+        for (int i = 0; i < s; i++) {
+            if (future.weeksToPart(now, couple, n, text.seed + i) != NOBODY) {
+                parting++;
+            }
+        }
+        return parting;
     }
 
     // ---- who interpreted
@@ -660,51 +670,46 @@ public final class SpouseTalk {
             for (int steps = 0; steps < CODE_ROOM && at >= 0 && at < CODE_ROOM; steps++) {
                 int step = code[at];
                 at++;
+                if (step == STOP) {
+                    return top == 1 ? stack[0] : 0;
+                }
                 if (step > ADD) {
                     if (top >= STACK_ROOM) {
                         return 0;
                     }
-                    stack[top] = operand(step);
+                    stack[top] = step >= 0 ? step : vars[VAR - step];
                     top++;
-                } else if (step == STOP) {
-                    return top == 1 ? stack[0] : 0;
-                } else {
-                    if (top < 2 || (step == DIVIDE && stack[top - 1] == 0)) {
-                        return 0;
-                    }
-                    int left = stack[top - 2];
-                    int right = stack[top - 1];
-                    if (step > STOP) {
-                        stack[top - 2] = joined(step, left, right);
+                    continue;
+                }
+                if (top < 2) {
+                    return 0;
+                }
+                top--;
+                int left = stack[top - 1];
+                int right = stack[top];
+                switch (step) {
+                    case ADD:
+                        stack[top - 1] = left + right;
+                        break;
+                    case SUBTRACT:
+                        stack[top - 1] = left - right;
+                        break;
+                    case MULTIPLY:
+                        stack[top - 1] = left * right;
+                        break;
+                    case DIVIDE:
+                        if (right == 0) {
+                            return 0;
+                        }
+                        stack[top - 1] = left / right;
+                        break;
+                    default:
                         top--;
-                    } else {
-                        top -= 2;
                         at = left < right ? at : JUMP - step;
-                    }
+                        break;
                 }
             }
             return 0;
-        }
-
-        private int operand(int step) {
-            if (step >= 0) {
-                return step;
-            }
-            int variable = VAR - step;
-            return variable < VAR_COUNT ? vars[variable] : 0;
-        }
-
-        private static int joined(int step, int left, int right) {
-            switch (step) {
-                case ADD:
-                    return left + right;
-                case SUBTRACT:
-                    return left - right;
-                case MULTIPLY:
-                    return left * right;
-                default:
-                    return right == 0 ? 0 : left / right;
-            }
         }
     }
 
@@ -754,13 +759,16 @@ public final class SpouseTalk {
         }
 
         void addCouple(int one, int two) {
-            if (couples < MAX_COUPLES && hasSpouse(one) && hasSpouse(two)) {
-                pairs[2 * couples] = one;
-                pairs[2 * couples + 1] = two;
-                coupleOf[one] = couples;
-                coupleOf[two] = couples;
+            if (couples < MAX_COUPLES) {
+                if (hasSpouse(one) && hasSpouse(two)) {
+                    pairs[2 * couples] = one;
+                    pairs[2 * couples + 1] = two;
+                    coupleOf[one] = couples;
+                    coupleOf[two] = couples;
+                }
+                // One of no such names counts, too: there is no more room for it than for others.
+                couples++;
             }
-            couples++;
         }
 
         void addThird(int price, int tired) {
@@ -776,7 +784,7 @@ public final class SpouseTalk {
         }
 
         boolean hasCouple(int couple) {
-            return couple >= 0 && couple < couples && couple < MAX_COUPLES;
+            return couple >= 0 && couple < couples;
         }
 
         boolean hasThird(int third) {
@@ -948,25 +956,25 @@ public final class SpouseTalk {
             nameCount = 0;
             at = 0;
             fault = 0;
-            faultPlace = NONE;
             meaningFault = 0;
             meaningPlace = NONE;
             boolean more = true;
             for (int i = 0; more && i <= MAX_TOKENS; i++) {
-                more = tokens.kindAt(at) != END && readTell();
+                int kind = tokens.kindAt(at);
+                if (kind >= LAW_KEY && kind < LAW_KEY + LAW_COUNT) {
+                    more = readLaw(kind);
+                } else {
+                    more = kind != END && readFact(kind);
+                }
             }
-            if (fault == 0) {
-                fault = meaningFault;
-                faultPlace = meaningPlace;
-            }
+            // Reading stops at the token that is refused.
+            faultPlace = fault == 0 ? meaningPlace : tokens.placeOf(at);
+            fault = fault == 0 ? meaningFault : fault;
             return fault;
         }
 
         private boolean refuse(int number) {
-            if (fault == 0) {
-                fault = number;
-                faultPlace = tokens.placeOf(at);
-            }
+            fault = number;
             return false;
         }
 
@@ -980,10 +988,12 @@ public final class SpouseTalk {
 
         private boolean take(int kind) {
             if (tokens.kindAt(at) != kind) {
-                return refuse(SYNTAX);
+                fault = SYNTAX;
+                return false;
             }
             if (at >= MAX_TOKENS) {
-                return refuse(ROOM);
+                fault = ROOM;
+                return false;
             }
             at++;
             return true;
@@ -1003,11 +1013,7 @@ public final class SpouseTalk {
             return (int) tokens.valueAt(at - 1);
         }
 
-        private boolean readTell() {
-            int kind = tokens.kindAt(at);
-            if (kind >= LAW_KEY && kind < LAW_KEY + LAW_COUNT) {
-                return readLaw(kind);
-            }
+        private boolean readFact(int kind) {
             switch (kind) {
                 case SPOUSE_KEY:
                     return readSpouse();
@@ -1131,28 +1137,21 @@ public final class SpouseTalk {
                 if (ifs == MAX_IFS) {
                     return refuse(ROOM);
                 }
-                if (!readIf()) {
+                if (!take(IF_KEY) || !readSum(0) || !take('<') || !readSum(0) || !take(THEN_KEY)) {
                     return false;
                 }
+                int jump = fresh.laws.add(JUMP);
+                if (!readSum(0) || !take(ELSE_KEY)) {
+                    return false;
+                }
+                fresh.laws.add(STOP);
+                fresh.laws.jumpHere(jump);
             }
             if (!readSum(0)) {
                 return false;
             }
             fresh.laws.add(STOP);
             return take(';');
-        }
-
-        private boolean readIf() {
-            if (!take(IF_KEY) || !readSum(0) || !take('<') || !readSum(0) || !take(THEN_KEY)) {
-                return false;
-            }
-            int jump = fresh.laws.add(JUMP);
-            if (!readSum(0) || !take(ELSE_KEY)) {
-                return false;
-            }
-            fresh.laws.add(STOP);
-            fresh.laws.jumpHere(jump);
-            return true;
         }
 
         private boolean readSum(int parens) {
@@ -1246,10 +1245,6 @@ public final class SpouseTalk {
             return laws.answer(DARES) > 0;
         }
 
-        private boolean isBound(int[] state, int third) {
-            return state[SWORN + third] != 0 && !isDaring(state, third);
-        }
-
         private int dropsOf(int[] state, int third) {
             askAboutThird(state, third);
             return within(laws.answer(DROPS), 0, 100);
@@ -1264,7 +1259,8 @@ public final class SpouseTalk {
         }
 
         int putWord(int[] state, int third, int word, int at) {
-            return isBound(state, third) ? word : bentWord(state, third, word, at);
+            boolean bound = state[SWORN + third] != 0 && !isDaring(state, third);
+            return bound ? word : bentWord(state, third, word, at);
         }
 
         int putRow(int[] state, int third, int row) {
@@ -1272,7 +1268,7 @@ public final class SpouseTalk {
         }
 
         private int carriedRow(int[] state, int third, int row, int drops, int seed, int lots) {
-            boolean bound = isBound(state, third);
+            boolean bound = state[SWORN + third] != 0 && !isDaring(state, third);
             int size = Rows.size(row);
             int carried = EMPTY_ROW;
             for (int i = 0; i < size; i++) {
@@ -1481,17 +1477,13 @@ public final class SpouseTalk {
             this.talk = talk;
         }
 
-        int putByTwo(int[] state, int one, int two, int row) {
-            return talk.putRow(state, two, talk.putRow(state, one, row));
-        }
-
         int lostByTwo(int[] state, int one, int two, int row) {
-            return rows.changes(row, putByTwo(state, one, two, row));
+            return rows.changes(row, talk.putRow(state, two, talk.putRow(state, one, row)));
         }
 
         int bestPair(int[] state, int row) {
             int best = NOBODY;
-            int bestLoss = Integer.MAX_VALUE;
+            int bestLoss = ENDLESS;
             for (int one = 0; one < text.thirds; one++) {
                 for (int two = 0; two < text.thirds; two++) {
                     int loss = lostByTwo(state, one, two, row);
@@ -1506,7 +1498,7 @@ public final class SpouseTalk {
 
         int bestThird(int[] state, int row) {
             int best = NOBODY;
-            int bestLoss = Integer.MAX_VALUE;
+            int bestLoss = ENDLESS;
             for (int third = 0; third < text.thirds; third++) {
                 int loss = rows.changes(row, talk.putRow(state, third, row));
                 if (loss < bestLoss) {
@@ -1589,7 +1581,7 @@ public final class SpouseTalk {
                 ways *= text.thirds;
             }
             int best = 0;
-            int bestLoss = Integer.MAX_VALUE;
+            int bestLoss = ENDLESS;
             for (int way = 0; way < ways; way++) {
                 int loss = lossOf(way, together);
                 if (loss < bestLoss) {
@@ -1632,7 +1624,7 @@ public final class SpouseTalk {
             for (int i = 0; i < together; i++) {
                 int bit = 1 << chosen[i];
                 if ((taken & bit) != 0) {
-                    return Integer.MAX_VALUE;
+                    return ENDLESS;
                 }
                 taken |= bit;
                 loss += losses[i * MAX_THIRDS + chosen[i]];
@@ -1667,14 +1659,10 @@ public final class SpouseTalk {
 
         int[] behind(int[] state, int n) {
             System.arraycopy(state, 0, later, 0, STATE_SIZE);
-            goOn(n);
-            return later;
-        }
-
-        private void goOn(int n) {
             for (int i = 0; i < n; i++) {
                 talk.goThroughWeek(later, text.seed);
             }
+            return later;
         }
 
         int weeksToPart(int[] state, int couple, int most, int seed) {
@@ -1688,23 +1676,22 @@ public final class SpouseTalk {
             return later[PARTED + couple] != 0 ? most : NOBODY;
         }
 
-        int seedsThatPart(int[] state, int couple, int n, int seeds) {
-            int parting = 0;
-            for (int i = 0; i < seeds; i++) {
-                if (weeksToPart(state, couple, n, text.seed + i) != NOBODY) {
-                    parting++;
-                }
+        void tryOaths(int[] state, int n, int set) {
+            System.arraycopy(state, 0, later, 0, STATE_SIZE);
+            for (int third = 0; third < text.thirds; third++) {
+                later[SWORN + third] = (set >>> third) & 1;
             }
-            return parting;
+            for (int i = 0; i < n; i++) {
+                talk.goThroughWeek(later, text.seed);
+            }
+            for (int third = 0; third < text.thirds; third++) {
+                earned[set * MAX_THIRDS + third] = later[EARNED + third];
+            }
         }
 
-        int restingOaths(int[] state, int n, int wanted) {
-            int sets = 1 << text.thirds;
-            for (int set = 0; set < sets; set++) {
-                fillEarned(state, n, set);
-            }
+        int restingOaths(int wanted) {
             int found = 0;
-            for (int set = 0; set < sets; set++) {
+            for (int set = 0; set < 1 << text.thirds; set++) {
                 if (isResting(set)) {
                     if (found == wanted) {
                         return set;
@@ -1713,15 +1700,6 @@ public final class SpouseTalk {
                 }
             }
             return wanted == NONE ? found : NONE;
-        }
-
-        private void fillEarned(int[] state, int n, int set) {
-            System.arraycopy(state, 0, later, 0, STATE_SIZE);
-            for (int third = 0; third < text.thirds; third++) {
-                later[SWORN + third] = (set >>> third) & 1;
-            }
-            goOn(n);
-            System.arraycopy(later, EARNED, earned, set * MAX_THIRDS, MAX_THIRDS);
         }
 
         private boolean isResting(int set) {
@@ -1778,7 +1756,8 @@ public final class SpouseTalk {
 
         private boolean mayHave(int[] state, int third, int k) {
             for (int i = 0; i < k && i < TOLD_ROOM; i++) {
-                if (talk.putRow(state, third, Rows.with(EMPTY_ROW, words[i])) != putAs[i]) {
+                int put = talk.putWord(state, third, words[i], 0);
+                if ((put == LEFT_OUT ? EMPTY_ROW : Rows.with(EMPTY_ROW, put)) != putAs[i]) {
                     return false;
                 }
             }
@@ -1791,7 +1770,7 @@ public final class SpouseTalk {
                 return NOBODY;
             }
             int best = NOBODY;
-            int bestLeft = Integer.MAX_VALUE;
+            int bestLeft = ENDLESS;
             for (int word = 0; word < WORDS; word++) {
                 int left = mostLeft(state, bits, word);
                 if (left < bestLeft) {
