@@ -1250,17 +1250,24 @@ public final class SpouseTalk {
             return within(laws.answer(DROPS), 0, 100);
         }
 
-        private int bentWord(int[] state, int third, int word, int at) {
+        private void askToBend(int[] state, int third) {
             askAboutThird(state, third);
             laws.let(V_PRICE, text.prices[third]);
+        }
+
+        // Behind askToBend, which words of one row need only once.
+        private int bentWord(int word, int at) {
             laws.let(V_WORD, word);
             laws.let(V_PLACE, at);
             return restOf(laws.answer(BENDS), PUT_WAYS);
         }
 
         int putWord(int[] state, int third, int word, int at) {
-            boolean bound = state[SWORN + third] != 0 && !isDaring(state, third);
-            return bound ? word : bentWord(state, third, word, at);
+            if (state[SWORN + third] != 0 && !isDaring(state, third)) {
+                return word;
+            }
+            askToBend(state, third);
+            return bentWord(word, at);
         }
 
         int putRow(int[] state, int third, int row) {
@@ -1269,11 +1276,12 @@ public final class SpouseTalk {
 
         private int carriedRow(int[] state, int third, int row, int drops, int seed, int lots) {
             boolean bound = state[SWORN + third] != 0 && !isDaring(state, third);
+            askToBend(state, third);
             int size = Rows.size(row);
             int carried = EMPTY_ROW;
             for (int i = 0; i < size; i++) {
                 int word = Rows.wordAt(row, size, i);
-                int put = bound ? word : bentWord(state, third, word, i);
+                int put = bound ? word : bentWord(word, i);
                 boolean dropped = drops > 0 && lotOfHundred(seed, lots + i) < drops;
                 if (put != LEFT_OUT && !dropped) {
                     carried = Rows.with(carried, put);

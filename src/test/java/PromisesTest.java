@@ -134,6 +134,16 @@ public final class PromisesTest {
     fault(sum + "*;", 1, sum.length() + 1);
     fault(sum + "* ", 1, sum.length() + 2);
     fault("x" + sum + "*2;", 1, 0);
+    // The 401st TOKEN, well placed, in each sort of TELL.
+    String law = "says=1" + "+1".repeat(196) + ";";
+    fault(law + "fine 1;fine 1", 2, law.length() + 12);
+    fault(law + "fine 1;seed 1", 2, law.length() + 12);
+    fault(law + "fine 1;says =", 2, law.length() + 12);
+    fault(law + "fine 1;third a", 2, law.length() + 13);
+    fault(law + "third a 1 1;", 2, law.length() + 11);
+    fault(law + "fine 1;couple a", 2, law.length() + 14);
+    fault(law + "spouse a 1;spouse", 2, law.length() + 11);
+    fault(law + "couple a b;couple", 2, law.length() + 11);
   }
 
   private static void p4ReadMeaning() {
@@ -148,6 +158,11 @@ public final class PromisesTest {
     fault("spouse a 1; couple b a;", 4, 19);
     fault("spouse a 1; couple a b; spouse b 1;", 4, 21);
     fault("spouse a 1; third b 1 1; couple a b;", 4, 34);
+    String ten = "third a 1 1;third b 1 1;third c 1 1;third d 1 1;spouse e 1;spouse f 1;spouse g 1;spouse h 1;spouse y 1;spouse z 1;";
+    fault(ten + "couple z e;couple f y;couple g h;", 0, NONE);
+    fault(ten + "couple z z;", 3, ten.length() + 9);
+    fault(ten + "couple z d;", 4, ten.length() + 9);
+    fault(ten.replace("spouse z", "spouse y"), 3, ten.length() - 4);
     fault("spouse a 100;", 5, 9);
     fault("spouse a 99; third b 9 99; fine 99; seed 9999;", 0, NONE);
     fault("third b 10 99;", 5, 8);
@@ -428,6 +443,8 @@ public final class PromisesTest {
     T.due("a sworn one is fined for what is dropped", x.third(1, 5), fines);
     T.due("words said are paid", x.third(1, 4), 10 - 10 * fines);
     T.due("nothing is dropped but in weeks", x.heard(1, row(1, 2, 3, 4, 5)), row(1, 2, 3, 4, 5));
+    eachLot(text, 77);
+    eachLot(text.replace("seed 77;", ""), 0);
     x = Tape.read(text + "drops = 0 - 5;");
     x.hire(0, 0);
     x.weeks(1);
@@ -436,6 +453,21 @@ public final class PromisesTest {
     x.hire(0, 0);
     x.weeks(1);
     T.due("drops at most 100", x.count(7), 0);
+  }
+
+  /** Both couples by both thirds, word by word, for 12 weeks. */
+  private static void eachLot(String text, int seed) {
+    SpouseTalk x = Tape.read(text);
+    int heard = 0;
+    for (int week = 0; week < 12; week++) {
+      for (int couple = 0; couple < 2; couple++) {
+        int third = (week / 3 + couple) % 2;
+        x.hire(couple, third);
+        for (int i = 0; i < 5; i++) if (lot(seed, 256 * week + 64 * third + 8 * couple + i) >= 50) heard++;
+      }
+      x.weeks(1);
+      T.due("heard in week " + week, x.count(7), heard);
+    }
   }
 
   private static void parting() {
@@ -819,6 +851,8 @@ public final class PromisesTest {
     x.tell(2, row(7));
     T.due("nobody", x.ask(3), -2);
     T.due("as before", x.ask(1), 2);
+    x = Tape.read(thirds + "bends = if word < 8 then 0 else which;");
+    T.due("words are 0 .. 7", x.ask(0), 0);
   }
 
   private static void p33Hold() {
