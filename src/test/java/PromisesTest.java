@@ -10,16 +10,11 @@ public final class PromisesTest {
       + "takes = word - 3; loves = mood / 25; dares = love - 1; fine 7; seed 2;";
 
   private static int row(int... words) {
-    int all = 1;
-    for (int w : words) all = all * 8 + w;
-    return all;
+    return Tape.row(words);
   }
 
   private static void fault(String text, int number, int place) {
-    SpouseTalk x = new SpouseTalk();
-    Tape.feed(x, text);
-    T.due("read of " + text, x.read(), number);
-    T.due("place of " + text, x.place(), place);
+    T.fault(text, number, place);
   }
 
   private static void p1NewObject() {

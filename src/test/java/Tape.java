@@ -26,6 +26,34 @@ final class Tape {
     return x;
   }
 
+  static int row(int... words) {
+    int all = 1;
+    for (int w : words) all = all * 8 + w;
+    return all;
+  }
+
+  /** All that can be seen of how things are, in 88 calls at most; to see that nothing happened. */
+  static String all(SpouseTalk x) {
+    StringBuilder s = new StringBuilder();
+    for (int what = 0; what <= 13; what++) s.append("count ").append(what).append(": ").append(x.count(what)).append('\n');
+    for (int i = 0; i < x.count(0); i++) for (int what = 0; what <= 3; what++) s.append("spouse ").append(i).append(' ').append(what).append(": ").append(x.spouse(i, what)).append('\n');
+    for (int i = 0; i < x.count(1); i++) for (int what = 0; what <= 5; what++) s.append("couple ").append(i).append(' ').append(what).append(": ").append(x.couple(i, what)).append('\n');
+    for (int i = 0; i < x.count(2); i++) for (int what = 0; what <= 7; what++) s.append("third ").append(i).append(' ').append(what).append(": ").append(x.third(i, what)).append('\n');
+    return s.toString();
+  }
+
+  /** A text on a new object: the number of its FAULT and its place; 0 and NONE if it has none. */
+  void fault(String text, int number, int place) {
+    SpouseTalk x = new SpouseTalk();
+    feed(x, text);
+    due("read of " + text, x.read(), number);
+    due("place of " + text, x.place(), place);
+  }
+
+  void good(String text) {
+    fault(text, 0, SpouseTalk.NONE);
+  }
+
   void due(String what, long got, long want) {
     checks++;
     if (got != want) {
@@ -36,6 +64,14 @@ final class Tape {
 
   void due(String what, boolean got, boolean want) {
     due(what, got ? 1 : 0, want ? 1 : 0);
+  }
+
+  void same(String what, String got, String want) {
+    checks++;
+    if (!got.equals(want)) {
+      wrong++;
+      System.out.println(what + ": is\n" + got + "was\n" + want);
+    }
   }
 
   void end() {
