@@ -273,6 +273,7 @@ public final class BoundsCallTest {
       T.due("not sworn already", x.swear(third, false), false);
       T.due("swear", x.swear(third, true), true);
       T.due("it is so", x.swear(third, true), false);
+      T.due("1 sworn", x.third(third, 3), 1);
       T.due("bits", x.count(5), (2 << third) - 1);
       T.due("things done", x.count(9), third + 1);
     }
@@ -282,6 +283,7 @@ public final class BoundsCallTest {
     }
     T.due("four things", x.count(9), 4);
     T.due("not sworn", x.swear(1, false), true);
+    T.due("else 0", x.third(1, 3), 0);
     T.due("bits", x.count(5), 13);
     T.due("not sworn already", x.swear(1, false), false);
     SpouseTalk y = new SpouseTalk();
@@ -636,6 +638,77 @@ public final class BoundsCallTest {
     }
   }
 
+  // III: "(nothing happens, nothing is DROPPED but in WEEKS)"
+  private static void nothingIsDroppedButInWeeks() {
+    SpouseTalk x = Tape.read(people(1, 2, "50 9") + "length = 5; takes = 0 - 9; drops = 100;");
+    x.hire(0, 1);
+    int five = row(0, 1, 2, 3, 4);
+    for (int w = 0; w < 8; w++) T.due("bends", x.bends(1, w, 0), w);
+    T.due("heard", x.heard(1, five), five);
+    T.due("chain", x.chain(0, 1, five), five);
+    T.due("say", x.say(1, row(1, 2)), row(1, 2));
+    T.due("loses", x.loses(1, 1, five), 0);
+    T.due("least", x.least(five), 0);
+    T.due("truest", x.truest(five), 0);
+    T.due("crooked", x.crooked(1, 0), 0);
+    T.due("takes", x.takes(1, five), 0);
+    T.due("hires", x.hires(NONE), 0);
+    x.tell(3, row(3));
+    T.due("who", x.who(1), 3);
+    T.due("in weeks: then", x.then(1, 60), 9);
+    T.due("in weeks: parts", x.parts(0), -2);
+    T.due("in weeks: year", x.year(0, 60, 20), 0);
+    x.weeks(60);
+    T.due("in weeks: said", x.count(6), 300);
+    T.due("in weeks: heard", x.count(7), 0);
+    SpouseTalk y = Tape.read(people(1, 2, "50 9") + "length = 5; takes = 0 - 9; drops = 0;");
+    y.hire(0, 1);
+    T.due("in weeks: then", y.then(1, 1), 0);
+    T.due("in weeks: parts", y.parts(0), 1);
+    T.due("in weeks: year", y.year(0, 1, 20), 20);
+  }
+
+  private static void nothingHappensByAsking() {
+    SpouseTalk x = Tape.read(FULL + "drops = 30;");
+    x.hire(0, 0);
+    x.hire(1, 3);
+    x.swear(3, true);
+    x.weeks(4);
+    x.tell(1, row(1));
+    String ahead = Tape.all(x);
+    int rows = row(1, 2, 3);
+    x.bends(3, 1, 1);
+    x.heard(3, rows);
+    x.chain(3, 0, rows);
+    x.say(3, rows);
+    x.loses(3, 0, rows);
+    x.least(rows);
+    x.truest(rows);
+    x.crooked(3, 1);
+    x.altered(rows, 1);
+    x.takes(5, rows);
+    x.hires(NONE);
+    x.hires(2);
+    x.then(5, 60);
+    x.paid(3, 60, 0);
+    x.parts(2);
+    x.oaths(24, NONE);
+    x.oaths(24, 0);
+    x.year(2, 60, 20);
+    x.who(1);
+    x.ask(1);
+    T.same("nothing happens", Tape.all(x), ahead);
+    SpouseTalk y = Tape.read(FULL + "drops = 30;");
+    y.hire(0, 0);
+    y.hire(1, 3);
+    y.swear(3, true);
+    y.weeks(4);
+    y.tell(1, row(1));
+    x.weeks(9);
+    y.weeks(9);
+    T.same("it goes on as if nothing were asked", Tape.all(x), Tape.all(y));
+  }
+
   // 24: "IN n WEEKS (0 .. 60)"; "NONE: no such ones."
   private static void thenUpTo60() {
     SpouseTalk x = Tape.read(FULL);
@@ -756,6 +829,24 @@ public final class BoundsCallTest {
     T.due("up to week 24: alike", x.oaths(23, NONE), 2);
     T.due("up to week 25: sworn alone", x.oaths(24, NONE), 1);
     T.due("up to week 25: sworn alone", x.oaths(24, 0), 1);
+  }
+
+  // 27: OATHS go on from how things are now: what each THIRD loves, how TIRED it is, how often it was FINED
+  private static void oathsFromNowOn() {
+    String[] dares = {"if love < 5 then 0 else 1", "if tired < 2 then 0 else 1", "if fines < 1 then 1 - week else 1"};
+    for (String law : dares) {
+      for (int third = 0; third < 4; third++) {
+        SpouseTalk x = Tape.read(people(1, 4, "50 50") + "length = 2; loves = 5 - 5 * week; bends = word + 1; dares = " + law + ";");
+        x.hire(0, third);
+        T.due("ahead, " + third + " by " + law, x.oaths(1, NONE), law.contains("fines") ? 8 : 16);
+        x.swear(third, true);
+        x.weeks(1);
+        T.due("it dares, " + third + " by " + law, x.oaths(1, NONE), 8);
+        for (int i = 0; i < 8; i++) T.due("without " + third, x.oaths(1, i) >> third & 1, 0);
+        x.undo();
+        T.due("undone, " + third + " by " + law, x.oaths(1, NONE), law.contains("fines") ? 8 : 16);
+      }
+    }
   }
 
   // 28: "YEAR by s SEEDS (1 .. 20) .. in n WEEKS (0 .. 60)"; "NONE: no such ones."
@@ -881,6 +972,20 @@ public final class BoundsCallTest {
     T.due("q", x.who(1), 2);
     x.swear(1, false);
     T.due("nobody", x.who(1), 0);
+  }
+
+  // IV: "said alone (place 0)", "WORDS are 0 .. 7"
+  private static void saidAlone() {
+    SpouseTalk x = Tape.read("third p 0 0; third q 0 0; bends = if place < 0 then 5 else if place < 1 then which * (word / 4) else which + 2;");
+    T.due("told at place 0", x.tell(7, row(1)), 0);
+    T.due("q", x.who(1), 2);
+    T.due("told at place 0", x.tell(7, row(3)), 1);
+    T.due("nobody", x.who(2), 0);
+    T.due("asked at place 0", x.ask(0), 4);
+    x = Tape.read("third p 0 0; third q 0 0; bends = if word < 8 then 0 else which;");
+    T.due("8 is no WORD to ask", x.ask(0), 0);
+    x = Tape.read("third p 0 0; third q 0 0; bends = if word < 7 then 0 else which;");
+    T.due("7 is one", x.ask(0), 7);
   }
 
   // 33: "held in a SLOT (0 .. 2): true; false: no such one."
@@ -1024,16 +1129,20 @@ public final class BoundsCallTest {
     hiresByHowManyThereAre();
     hiresWithoutThePartedOnes();
     hiresOfAlikeOnes();
+    nothingIsDroppedButInWeeks();
+    nothingHappensByAsking();
     thenUpTo60();
     paidUpTo60();
     partsUpTo200();
     oathsUpTo24();
     oathsThatRest();
+    oathsFromNowOn();
     yearBySeeds();
     tellUpTo20();
     forgetAll();
     knownByK();
     askTheLeastOfAlikeOnes();
+    saidAlone();
     slotsToHold();
     goesOnFromWhatIsHeld();
     slotsStandByThemselves();

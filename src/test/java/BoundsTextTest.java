@@ -600,7 +600,7 @@ public final class BoundsTextTest {
     x.hire(0, 0);
     x.swear(0, true);
     x.weeks(3);
-    x.hold(1);
+    for (int slot = 0; slot < 3; slot++) x.hold(slot);
     x.tell(2, Tape.row(3));
     x.weeks(1);
     return x;
@@ -655,6 +655,40 @@ public final class BoundsTextTest {
     }
   }
 
+  // LAWS, FINE and SEED of the text ahead are gone with it, too, whether that one had a FAULT or not.
+  private static void nothingIsLeftOfTheTextAhead() {
+    String all = "length=1;says=7;bends=word+2;drops=9;takes=5;loves=4;dares=0-1;fine 77;seed 55;";
+    String[] later = {"", "drops=50;length=5;", "bends=8;dares=1;", "length=5;bends=word+1;dares=1;drops=30;"};
+    for (String rest : later) {
+      for (String ahead : new String[] {all, all + "fine 100;", all + "?"}) {
+        SpouseTalk x = new SpouseTalk();
+        Tape.feed(x, ahead);
+        x.read();
+        SpouseTalk y = new SpouseTalk();
+        for (SpouseTalk each : new SpouseTalk[] {x, y}) {
+          Tape.feed(each, "spouse a 50;spouse b 50;couple a b;third t 1 2;" + rest);
+          T.due("read", each.read(), 0);
+          each.hire(0, 0);
+          each.swear(0, true);
+          each.weeks(20);
+        }
+        T.same("behind " + ahead + " by " + rest, Tape.all(x), Tape.all(y));
+      }
+    }
+  }
+
+  // One object reads texts of 400 TOKENS again and again: each has all the room there is.
+  private static void roomIsThereAnew() {
+    SpouseTalk x = new SpouseTalk();
+    for (int i = 0; i < 12; i++) {
+      Tape.feed(x, "spouse a 1;length=1;says=1" + "+1".repeat(193 + i % 2) + ";");
+      T.due("read " + i, x.read(), 0);
+      T.due("all of 400 TOKENS are read", x.spouse(0, 2), Tape.row((194 + i % 2) % 8));
+      Tape.feed(x, i % 3 == 0 ? SIX + THREE + FOUR : i % 3 == 1 ? SIX + "spouse g 1;" : "says=(((((((1)))))));");
+      T.due("read " + i, x.read(), i % 3 == 0 ? 0 : ROOM);
+    }
+  }
+
   public static void main(String[] args) {
     textOf2000Bytes();
     tokensAreTheLongest();
@@ -683,6 +717,8 @@ public final class BoundsTextTest {
     rowsAsNumbers();
     aFaultChangesNothing();
     aTextInPlaceOfTheOneAhead();
+    nothingIsLeftOfTheTextAhead();
+    roomIsThereAnew();
     T.end();
   }
 }

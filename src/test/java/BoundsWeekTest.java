@@ -157,23 +157,31 @@ public final class BoundsWeekTest {
     int[] loves = {0, 0, 70, 28, 12, 1, 2, 0, 0};
     int[] dares = {0, 0, 0, 28, 12, 3, 2, 0, 1};
     for (int i = 0; i < VARS.length; i++) {
-      String v = VARS[i];
-      T.due("LENGTH by " + v, inTheThirdWeek("length", v, length[i], "1").spouse(5, 2), row(1));
-      T.due("SAYS by " + v, inTheThirdWeek("says", v, says[i], "7").spouse(5, 2) % 8, 7);
-      T.due("BENDS by " + v, inTheThirdWeek("bends", v, bends[i], "5").bends(3, 6, 2), 5);
-      SpouseTalk x = inTheThirdWeek("drops", v, drops[i], "100");
-      int heard = x.count(7);
-      x.weeks(1);
-      T.due("DROPS by " + v, x.count(7), heard);
-      x = inTheThirdWeek("takes", v, takes[i], "4");
-      int once = x.takes(4, row(2, 5)) - 60;
-      boolean bothAlike = v.equals("which") || v.equals("week") || takes[i] == 0;
-      T.due("TAKES by " + v, once, bothAlike ? 8 : 4);
-      x = inTheThirdWeek("loves", v, loves[i], "3");
-      x.weeks(1);
-      T.due("LOVES by " + v, x.third(3, 2), 15);
-      T.due("DARES by " + v, inTheThirdWeek("dares", v, dares[i], "1").third(3, 7), 1);
+      // The VAR is what is due, and not 1 more.
+      for (int off = 0; off <= 1; off++) {
+        String v = VARS[i];
+        boolean hit = off == 0;
+        T.due("LENGTH by " + v, inTheThirdWeek("length", v, length[i] + off, "1").spouse(5, 2), hit ? row(1) : 1);
+        T.due("SAYS by " + v, inTheThirdWeek("says", v, says[i] + off, "7").spouse(5, 2) % 8, hit ? 7 : 0);
+        T.due("BENDS by " + v, inTheThirdWeek("bends", v, bends[i] + off, "5").bends(3, 6, 2), hit ? 5 : 0);
+        SpouseTalk x = inTheThirdWeek("drops", v, drops[i] + off, "100");
+        int heard = x.count(7);
+        x.weeks(1);
+        T.due("DROPS by " + v, x.count(7), heard + (hit ? 0 : 4));
+        x = inTheThirdWeek("loves", v, loves[i] + off, "3");
+        x.weeks(1);
+        T.due("LOVES by " + v, x.third(3, 2), hit ? 15 : 12);
+        T.due("DARES by " + v, inTheThirdWeek("dares", v, dares[i] + off, "1").third(3, 7), hit ? 1 : 0);
+      }
+      takesBy(VARS[i], takes[i]);
     }
+  }
+
+  private static void takesBy(String v, int value) {
+    // Two WORDS, 2 and 5, are heard at places 0 and 1; what is the same for both is hit twice.
+    boolean bothAlike = v.equals("which") || v.equals("week") || value == 0;
+    T.due("TAKES by " + v, inTheThirdWeek("takes", v, value, "4").takes(4, row(2, 5)), 60 + (bothAlike ? 8 : 4));
+    T.due("TAKES by " + v, inTheThirdWeek("takes", v, value + 1, "4").takes(4, row(2, 5)), 60);
   }
 
   // "as many WORDS as LENGTH tells .., held to 0 .. 5"
@@ -494,6 +502,25 @@ public final class BoundsWeekTest {
     T.due("for good: " + text, x.couple(0, 3), 1);
   }
 
+  // "and has a THIRD no more": each COUPLE alone, all of them with a THIRD of their own
+  private static void partedOnesHaveNoThird() {
+    for (int c = 0; c < 3; c++) {
+      StringBuilder text = new StringBuilder();
+      for (int i = 0; i < 6; i++) text.append("spouse ").append("abcdef".charAt(i)).append(i == 2 * c + 1 ? " 9; " : " 50; ");
+      text.append("couple a b; couple c d; couple e f; third p 1 10; third q 1 20; third r 1 30; length = 1; takes = 0 - 9;");
+      SpouseTalk x = Tape.read(text.toString());
+      for (int i = 0; i < 3; i++) x.hire(i, i);
+      x.weeks(1);
+      T.due("parted", x.count(4), 1 << c);
+      for (int i = 0; i < 3; i++) {
+        T.due("third of " + i + " behind " + c, x.couple(i, 2), i == c ? -2 : i);
+        T.due("couples of " + i + " behind " + c, x.third(i, 6), i == c ? 0 : 1 << i);
+        T.due("tired " + i + " behind " + c, x.third(i, 1), 10 + 10 * i + (i == c ? 1 - 5 : 1));
+        T.due("heard " + i + " behind " + c, x.spouse(2 * i + 1, 3), 1);
+      }
+    }
+  }
+
   // One COUPLE that has PARTED leaves the others as they are.
   private static void othersGoOn() {
     SpouseTalk x = Tape.read("spouse a 1; spouse b 50; spouse c 50; spouse d 50; spouse e 50; spouse f 50; couple c d; couple a b; couple e f; third t 1 50; takes = 1; length = 1;");
@@ -569,6 +596,7 @@ public final class BoundsWeekTest {
     askedByHowAllWasAhead();
     silentOnes();
     partedByMoodZero();
+    partedOnesHaveNoThird();
     othersGoOn();
     restedThirds();
     theNextWeek();
